@@ -1352,7 +1352,7 @@ public final class RoundAnothers {
             return wall == gone || it.side == itsSide && it.place == place;
         }
 
-        /** Fills in the steps from a cell, as far as the end if there is one: the steps to it. */
+        /** Fills in the steps from a cell, to all cells or till an end is found: the steps to it. */
         int walk(int from, int to, int[] found) {
             Arrays.fill(found, NONE);
             if ((state.cells[from] & State.RIVER) != 0) {
@@ -1361,10 +1361,13 @@ public final class RoundAnothers {
             found[from] = 0;
             queue[0] = from;
             int last = 1;
-            for (int first = 0; first < last && (to == NONE || found[to] == NONE); first++) {
+            for (int first = 0; first < last && first < CELLS; first++) {
+                if (to != NONE && found[to] != NONE) {
+                    break;
+                }
                 int at = queue[first];
                 for (int side = 0; side < 4; side++) {
-                    if ((open[at] >> side & 1) == 1 && found[at + BESIDE[side]] == NONE) {
+                    if ((open[at] >> side & 1) == 1 && found[at + BESIDE[side]] == NONE && last < CELLS) {
                         found[at + BESIDE[side]] = found[at] + 1;
                         queue[last] = at + BESIDE[side];
                         last++;
@@ -1486,17 +1489,15 @@ public final class RoundAnothers {
             }
         }
 
-        /** Puts the reader at the first part. */
+        /** Splits the bytes, and puts the reader at the first part. */
         void open() {
             parts = 0;
-            int at = 0;
-            while (at < length) {
-                int to = at + 1;
-                if (bytes[at] != ' ') {
+            int to = 0;
+            for (int at = 0; at < length; at++) {
+                if (at >= to && bytes[at] != ' ') {
                     to = split(at);
                     parts++;
                 }
-                at = to;
             }
             kinds[parts] = END;
             places[parts] = length;
