@@ -502,7 +502,7 @@ public final class RoundAnothers {
                 || what < 0 || what > 2) {
             return NONE;
         }
-        ways.survey(now, NONE, NONE);
+        ways.survey(now, NONE);
         int steps = ways.walk(y * WIDEST + x, toY * WIDEST + toX, ways.steps);
         if (steps == NONE) {
             return REFUSED;
@@ -531,7 +531,7 @@ public final class RoundAnothers {
         if (what < 0 || what > 1) {
             return NONE;
         }
-        ways.survey(now, NONE, NONE);
+        ways.survey(now, NONE);
         return total(what == 0);
     }
 
@@ -559,7 +559,7 @@ public final class RoundAnothers {
         if (!now.isWall(wall) || what < 0 || what > 1) {
             return NONE;
         }
-        ways.survey(now, wall, NONE);
+        ways.survey(now, NONE);
         ways.clearGates();
         for (int k = 0; k < ERRANDS; k++) {
             Errand it = now.errands[k];
@@ -576,9 +576,9 @@ public final class RoundAnothers {
         if (!now.isWall(wall)) {
             return NO_GAIN;
         }
-        ways.survey(now, NONE, NONE);
+        ways.survey(now, NONE);
         int with = total(false);
-        ways.survey(now, NONE, wall);
+        ways.survey(now, wall);
         return with - total(false);
     }
 
@@ -1068,15 +1068,7 @@ public final class RoundAnothers {
         final int[] level = new int[WIDE * WIDE];
         final int[] upright = new int[WIDE * WIDE];
 
-        /** A new object's land has worth 1 in each cell and nothing else. */
-        Sums() {
-            for (int y = 1; y < WIDE; y++) {
-                for (int x = 1; x < WIDE; x++) {
-                    worth[y * WIDE + x] = y * x;
-                }
-            }
-        }
-
+        /** A new object has no things to ask for, so the first land is the first to be added up. */
         void rebuild(State land) {
             for (int y = 0; y < land.rows; y++) {
                 for (int x = 0; x < land.columns; x++) {
@@ -1280,13 +1272,11 @@ public final class RoundAnothers {
         private final int[] gateCoins = new int[4 * WIDEST];
         private final int[] gateSteps = new int[4 * WIDEST];
         private State state;
-        private int shut;
         private int gone;
 
-        /** Over the line of a wall that is shut nobody goes, over that of one gone anybody. */
-        void survey(State of, int shutWall, int goneWall) {
+        /** Over the line of a wall that is gone anybody goes. */
+        void survey(State of, int goneWall) {
             state = of;
-            shut = shutWall;
             gone = goneWall;
             paintWalls();
             Arrays.fill(open, 0);
@@ -1343,7 +1333,7 @@ public final class RoundAnothers {
             }
             boolean leaves = from != NONE && state.things[from].round == to;
             int wall = leaves ? from : to;
-            if (wall == NONE || wall == shut) {
+            if (wall == NONE) {
                 return false;
             }
             Thing it = state.things[wall];
@@ -1398,7 +1388,10 @@ public final class RoundAnothers {
             Arrays.fill(gateSteps, 0);
         }
 
-        /** With the wall shut: adds what the errand costs by each gate that the wall could have. */
+        /**
+         * Adds what the errand costs by each gate that the wall could have. Neither end's part of the
+         * way goes over the wall's line, so the gate that the wall has does not matter to them.
+         */
         void tryGates(Thing wall, Errand it) {
             walk(it.from(), NONE, steps);
             walk(it.to(), NONE, backSteps);

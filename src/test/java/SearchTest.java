@@ -101,6 +101,9 @@ public final class SearchTest {
         Check.wish(it, "want 100 - long if own = 0");
         it.build(0, 2, 0, 0, 3, 3, 1, -1);
         ahead("of one who has a wall", it, 1, 1, 1, 1);
+        it = Check.object(ONE, "not deep > 0");
+        Check.wish(it, "want ground");
+        ahead("of none who could come", it, 2, 2, 2, 2);
         it = Check.object(ONE, "not long > 10");
         Check.wish(it, "want 1");
         ahead("none", it, -2, -2, -2, -2);
@@ -168,5 +171,7 @@ public final class SearchTest {
         it = Check.object("wide 40 40;house 19 19 20 20", "far 1", "far 10");
         CHECK.due("many", it.most(0, 0, 0), 19);
         CHECK.due("beyond 9", it.most(1, 0, 0), 0);
+        it = Check.object(ONE, "far 9");
+        CHECK.due("just 9", it.most(0, 0, 0), 1);
     }
 }

@@ -47,6 +47,10 @@ public final class TextTest {
         badLaw("join 1;join 1", 7, 4);
         badLaw("may 1", 5, 0);
         badLaw("may 1<", 6, 0);
+        badLaw("may 1<=", 7, 0);
+        badLaw("may 1<=" + " ".repeat(393), 400, 0);
+        badLaw(";".repeat(400), 0, 0);
+        badLaw("may 1=1" + ";".repeat(393), 8, 0);
         badLaw("may 1< =2", 7, 0);
         badLaw("may 1=<2", 6, 0);
         badLaw("may 1=>2", 6, 0);

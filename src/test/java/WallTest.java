@@ -37,6 +37,14 @@ public final class WallTest {
         it.like(5, 2, 3);
         CHECK.due("like of the builder", it.wish(0, 2, 3, 3, 9, 9, 6, -1), -4);
         CHECK.due("like to oneself", it.wish(0, 5, 3, 3, 9, 9, 6, -1), 0);
+        it = Check.object(PAIR, "far 1;join 1");
+        Check.wish(it, "want like");
+        it.build(0, 5, 4, 4, 8, 8, 0, -1);
+        CHECK.due("like of a wall and a house", it.wish(0, 2, 3, 3, 14, 9, 6, 1), 0);
+        it.build(0, 6, 9, 4, 13, 8, 1, -1);
+        it.like(2, 5, -4);
+        it.like(2, 6, 9);
+        CHECK.due("like of both owners", it.wish(0, 2, 3, 3, 14, 9, 6, 7), 5);
     }
 
     private static void can(RoundAnothers it, int x, int y, int toX, int toY, int want) {
@@ -115,6 +123,19 @@ public final class WallTest {
         can(it, 4, 0, 12, 20, 1);
         it = Check.object("house 5 5 7 7;river 2 2 3 3;river 3 3 4 4", "far 1");
         can(it, 3, 3, 8, 8, 1);
+        it = Check.object("house 5 5 7 7;river 0 0 1 20;river 1 0 20 1", "far 1");
+        can(it, 0, 4, 8, 8, 0);
+        can(it, 1, 4, 8, 8, 1);
+        can(it, 4, 0, 8, 8, 0);
+        can(it, 4, 1, 8, 8, 1);
+        // What a wider land had on its lines is gone with it.
+        it = Check.object("wide 30 30;house 5 5 7 7;river 0 9 30 14;river 9 0 14 30", "far 1");
+        can(it, 4, 4, 10, 8, 0);
+        can(it, 4, 4, 8, 10, 0);
+        Check.land(it, "wide 10 10;house 5 5 7 7;river 9 9 11 11");
+        can(it, 4, 4, 10, 8, 1);
+        can(it, 4, 4, 8, 10, 1);
+        can(it, 0, 0, 10, 10, 1);
     }
 
     private static void joined() {
@@ -179,6 +200,16 @@ public final class WallTest {
         CHECK.due("round 1", it.thing(1, 5), 7);
         CHECK.due("round 6", it.thing(6, 5), 7);
         CHECK.due("round 7", it.thing(7, 5), -1);
+        it = Check.object(PAIR, "far 1;join 1");
+        it.build(0, 1, 4, 4, 8, 8, 0, -1);
+        it.build(0, 1, 9, 4, 13, 8, 1, -1);
+        it.build(0, 1, 3, 3, 14, 9, 7, 6);
+        Check.wish(it, "want deep");
+        Check.wish(it, "want own");
+        CHECK.due("deep of both", it.thing(8, 6), 2);
+        CHECK.due("deep of what would come", it.wish(0, 1, 2, 2, 15, 10, 8, -1), 3);
+        CHECK.due("own of what would come", it.wish(1, 1, 2, 2, 15, 10, 8, -1), 3);
+        CHECK.due("own of another", it.wish(1, 2, 2, 2, 15, 10, 8, -1), 0);
     }
 
     private static void noNumber() {

@@ -203,6 +203,11 @@ public final class WayTest {
         CHECK.due("a house", it.where(0, 0), -1);
         CHECK.due("no wall", it.where(7, 0), -1);
         CHECK.due("-1", it.where(-1, 0), -1);
+        it = Check.object("wide 10 10;house 4 4 6 6;river 4 3 5 7", "far 1");
+        it.build(0, 1, 3, 3, 7, 7, 0, -1);
+        it.gate(6, 1, 1, 0);
+        it.errand(0, 0, 0, 5, 6, 4);
+        where("not into the part that a river cuts off", it, 0, 2);
         it = Check.object("wide 10 10;house 4 4 6 6;river 3 7 7 8", "far 1");
         it.build(0, 1, 3, 3, 7, 7, 0, -1);
         it.errand(0, 0, 3, 9, 3, 6);

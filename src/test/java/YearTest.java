@@ -21,6 +21,8 @@ public final class YearTest {
         CHECK.due("below 0", it.seed(-1), -1);
         CHECK.due("what it was", it.seed(5), Integer.MAX_VALUE);
         CHECK.due("x", it.count(5), 5);
+        CHECK.due("0 again", it.seed(0), 5);
+        CHECK.due("x 0", it.count(5), 0);
     }
 
     private static int draw() {
