@@ -28,6 +28,7 @@ public final class LandEdgesTest {
         firstFault();
         leastFault();
         anotherLand();
+        landAfterLand();
         faultyLand();
         CHECK.end();
     }
@@ -131,6 +132,8 @@ public final class LandEdgesTest {
         bad(" ".repeat(388) + "house 1 1 2 ", 400, CANT_STAND);
         bad("house 1 1 2 2" + " ".repeat(386) + "x", 399, CANT_STAND);
         bad(" ".repeat(400), 400, CANT_STAND);
+        bad(";".repeat(400), 0, CANT_STAND);
+        bad("well 1 1" + ";".repeat(392), 9, CANT_STAND);
         bad("", 0, CANT_STAND);
     }
 
@@ -345,6 +348,14 @@ public final class LandEdgesTest {
         sound("wide 00007 00009", 0);
         bad("wide 000007 9", 5, BAD_NUMBER);
         bad("wide 7 000009", 7, BAD_NUMBER);
+        bad("worth 000007 1 1 2 2", 6, BAD_NUMBER);
+        bad("well 000001 1", 5, BAD_NUMBER);
+        bad("well 1 000001", 7, BAD_NUMBER);
+        bad("river 000001 1 2 2", 6, BAD_NUMBER);
+        bad("river 1 000001 2 2", 8, BAD_NUMBER);
+        bad("river 1 1 000002 2", 10, BAD_NUMBER);
+        bad("river 1 1 2 000002", 12, BAD_NUMBER);
+        sound("worth 00007 00001 00001 00002 00002;well 00001 00001;river 00001 00001 00002 00002", 0);
         bad("wide 99999999999999999999 9", 5, BAD_NUMBER);
         bad("wide 4294967303 9", 5, BAD_NUMBER);
         CHECK.due("as far as digits go on", Check.object("wide 12 13").count(0), 12);
@@ -404,6 +415,37 @@ public final class LandEdgesTest {
         CHECK.due("a wall", it.build(0, 0, 2, 2, 5, 5, 0, -1), 6);
         CHECK.due("an image of the land before", it.back(2), 24);
         CHECK.due("houses", it.count(2), 6);
+    }
+
+    /** Nothing of one land is left in the next but one. */
+    private static void landAfterLand() {
+        CHECK.says("The TAPE, which is empty then, is the LAND in place of the one there was (no WALLS, ERRANDS; YEAR 0; LIKE, x stay)");
+        for (int next = 0; next < 2; next++) {
+            RoundAnothers it = Check.object("wide 40 30;house 30 20 33 23;house 36 25 38 28;worth 9 0 0 40 40;river 3 3 9 9;well 2 2",
+                    "far 1");
+            it.build(0, 0, 29, 19, 34, 24, 0, -1);
+            it.years(0, 3);
+            for (int k = 0; k < 6; k++) {
+                it.errand(k, 0, 0, 0, 1, 1);
+            }
+            CHECK.due("another", Check.land(it, "wide 12 12;house 5 5 6 6"), 1);
+            CHECK.due("a third one", Check.land(it, next == 0 ? "well 1 1" : "house 15 15 16 16"), next);
+            int[] counts = {20, 20, next, 0, 0};
+            for (int what = 0; what < 5; what++) {
+                CHECK.due("count " + what, it.count(what), counts[what]);
+            }
+            for (int thing = next; thing < 30; thing++) {
+                CHECK.due("thing " + thing, it.thing(thing, 0), -2);
+            }
+            for (int cell = 0; cell < 400; cell++) {
+                CHECK.due("worth", it.cell(cell % 20, cell / 20, 0), 1);
+                CHECK.due("river", it.cell(cell % 20, cell / 20, 1), 0);
+                CHECK.due("well", it.cell(cell % 20, cell / 20, 2), next == 0 && cell == 21 ? 1 : 0);
+            }
+            CHECK.due("errands", it.sum(1), 0);
+            CHECK.due("nests", it.nests(0), next);
+            CHECK.due("free", it.nests(1), 400 - next);
+        }
     }
 
     private static void faultyLand() {

@@ -203,6 +203,9 @@ public final class SearchEdgesTest {
         CHECK.says("(0 if there is none, or if it is below 0)");
         ahead("none comes, and none is wished", object(HOUSE, "not deep > 0 and long < 28", "want 0 - long if deep > 0"), 2, 1, 1, 1, 1);
         ahead("none comes here", object(HOUSE, "not deep > 0 and long < 28", "want 1 if deep > 0"), 2, 1, 1, 1, 1);
+        // Round a line of 20 or more he can't come: that counts as 0, not more and not less.
+        ahead("he wants 1 where he comes", object(HOUSE, "not long > 27", "want 1 if deep > 0"), 2, 1, 1, 2, 2);
+        ahead("he wants nothing where he comes", object(HOUSE, "not long > 27", "want 0"), 2, 1, 1, 1, 1);
         RoundAnothers it = object(HOUSE, "not deep > 0 and long > 24", "want 3 if deep > 0");
         ahead("none comes but round the shortest", it, 2, 1, 1, 1, 2);
     }
@@ -296,6 +299,15 @@ public final class SearchEdgesTest {
         it.best(0, 0, 0, 29, -1, 4, 0);
         it.least(0, 0, 29, -1, 5);
         CHECK.due("all stays", Check.print(it), before);
+        for (int walls = 0; walls < 4; walls++) {
+            it = Check.object(HOUSE, "not own >= " + walls, "far 1");
+            Check.wish(it, "want 5 + own");
+            before = Check.print(it);
+            CHECK.due("most", it.most(0, 0, 0), walls);
+            CHECK.due("all stays", Check.print(it), before);
+            CHECK.due("nothing of it counts", it.wish(0, 0, 8, 8, 12, 12, 0, -1), 5);
+            CHECK.due("nothing of it is in the way", it.build(1, 0, 8, 8, 12, 12, 0, -1), 6);
+        }
     }
 
     private static void nests() {

@@ -95,6 +95,22 @@ public final class TextEdgesTest {
         CHECK.due("law 5", it.can(5, 0, 5, 5, 13, 13, 0, -1), 1);
         CHECK.due("law 5", it.can(5, 0, 6, 5, 13, 13, 0, -1), 0);
         CHECK.due("law 6", it.can(6, 0, 5, 5, 13, 13, 0, -1), -1);
+        for (int i = 0; i < 6; i++) {
+            Check.wish(it, "want 10 + " + i);
+        }
+        CHECK.due("wish 5", it.wish(5, 0, 5, 5, 13, 13, 0, -1), 15);
+        CHECK.due("wish 6", it.wish(6, 0, 5, 5, 13, 13, 0, -1), 0);
+        // Six texts as long as can be.
+        it = Check.object("house 8 8 11 11");
+        for (int i = 0; i < 6; i++) {
+            Check.law(it, "far 1" + "+1".repeat(54) + "-" + (53 - i) + " if 1=1");
+            Check.wish(it, "want " + i + "+1".repeat(59));
+        }
+        for (int i = 0; i < 6; i++) {
+            CHECK.due("law " + i, it.can(i, 0, 6 - i, 6 - i, 13 + i, 13 + i, 0, -1), 1);
+            CHECK.due("law " + i, it.can(i, 0, 7 - i, 6 - i, 13 + i, 13 + i, 0, -1), 0);
+            CHECK.due("wish " + i, it.wish(i, 0, 5, 5, 14, 14, 0, -1), 59 + i);
+        }
     }
 
     private static void tapeIsEmpty() {
@@ -125,6 +141,10 @@ public final class TextEdgesTest {
         badLaw("may " + "[".repeat(10) + " ".repeat(385) + "[", 399, TOO_DEEP);
         badLaw("may 1<" + " ".repeat(394), 400, CANT_STAND);
         badLaw("may 1" + " ".repeat(394) + "<", 400, CANT_STAND);
+        badLaw("may 1" + " ".repeat(393) + "<=", 400, CANT_STAND);
+        badLaw(";".repeat(400), 0, CANT_STAND);
+        badWish(";".repeat(400), 0, CANT_STAND);
+        badWish("want 1" + "+".repeat(394), 7, CANT_STAND);
     }
 
     private static void clauses() {
@@ -229,7 +249,10 @@ public final class TextEdgesTest {
         long[] want = {24, 6, 6, 20, 20, 0, 0, 1, -1, 0, 0, 0};
         for (int i = 0; i < WORDS.length; i++) {
             comes(WORDS[i], want[i]);
-            badWish("want " + WORDS[i] + "s", 5, CANT_STAND);
+            for (String letter : new String[] {"a", "s", "z"}) {
+                badWish("want " + WORDS[i] + letter, 5, CANT_STAND);
+                badWish("want " + letter + WORDS[i], 5, CANT_STAND);
+            }
             badWish("want " + WORDS[i].substring(1), 5, CANT_STAND);
             badWish("want " + WORDS[i].substring(0, WORDS[i].length() - 1), 5, CANT_STAND);
             badWish("want " + WORDS[i] + WORDS[i], 5, CANT_STAND);
@@ -253,6 +276,14 @@ public final class TextEdgesTest {
             holds(a + ">=5", a >= 5);
             holds(a + ">5", a > 5);
             holds("0-" + a + "<0-5", a > 5);
+            String[] facts = {a + "<5", a + "<=5", a + "=5", a + ">=5", a + ">5"};
+            boolean[] want = {a < 5, a <= 5, a == 5, a >= 5, a > 5};
+            for (int i = 0; i < 5; i++) {
+                holds("not " + facts[i], !want[i]);
+                holds("not not " + facts[i], want[i]);
+                holds(facts[i] + " and 1=1", want[i]);
+                holds(facts[i] + " or 1=2", want[i]);
+            }
         }
         for (String sign : new String[] {"<>", "><", "==", "=<", "=>", "!=", "<<", "< =", "> ="}) {
             int place = sign.startsWith("!") ? 5 : sign.contains(" ") ? 7 : 6;
@@ -262,6 +293,15 @@ public final class TextEdgesTest {
         badLaw("may 1<2<3", 7, CANT_STAND);
         badLaw("may <1", 4, CANT_STAND);
         badLaw("may 1<", 6, CANT_STAND);
+        badLaw("may 1<=", 7, CANT_STAND);
+        badLaw("may 1>=", 7, CANT_STAND);
+        // What the tape had behind its end is no part of a sign.
+        for (String sign : new String[] {"<", ">"}) {
+            RoundAnothers it = new RoundAnothers();
+            Check.write(it, "may 1" + sign + "=2");
+            it.end(6);
+            CHECK.due("a sign cut off", it.text(0), Check.fault(6, CANT_STAND));
+        }
     }
 
     private static void partsAndFacts() {

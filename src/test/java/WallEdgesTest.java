@@ -12,13 +12,16 @@ public final class WallEdgesTest {
         firstFar();
         clear();
         clearOfWalls();
+        clearOfEach();
         riverLines();
         riverCorners();
+        riversAtTheEdge();
         mayAndNot();
         oneOrTwo();
         farFromTwo();
         numbers();
         own();
+        wordsOfTwo();
         wish();
         pulledOuter();
         pulledInner();
@@ -176,6 +179,25 @@ public final class WallEdgesTest {
         CHECK.due("nor what lies in it", it.can(0, 0, 1, 6, 8, 13, 6, -1), 1);
     }
 
+    /** Each house in turn has the wall, each other one is in its way. */
+    private static void clearOfEach() {
+        CHECK.says("it is CLEAR of all other OUTERMOST THINGS");
+        for (int i = 0; i < 6; i++) {
+            for (int other = 0; other < 6; other++) {
+                StringBuilder land = new StringBuilder("wide 40 40");
+                for (int h = 0; h < 6; h++) {
+                    int x = h == i ? 10 : h == other ? 15 : 30;
+                    int y = h == i || h == other ? 10 : 4 * h + 2;
+                    land.append(";house ").append(x).append(' ').append(y).append(' ').append(x + 1).append(' ').append(y + 1);
+                }
+                RoundAnothers it = Check.object(land.toString(), "far 1");
+                CHECK.due("houses", it.count(2), 6);
+                CHECK.due("clear of " + other, it.can(0, 0, 9, 9, 14, 12, i, -1), 1);
+                CHECK.due("not clear of " + other, it.can(0, 0, 9, 9, 15, 12, i, -1), i == other ? 1 : 0);
+            }
+        }
+    }
+
     /** A wall from 6 to 13 on all sides, and a river of two cells across each piece of its line, and beside it. */
     private static void riverLines() {
         CHECK.says("no piece of its line (a side of a CELL) has RIVERS on both sides");
@@ -222,6 +244,23 @@ public final class WallEdgesTest {
                         + ";river " + x + " " + (y + 1) + " " + (x + 1) + " " + (y + 2), "far 1");
                 can(it, 6, 6, 13, 13, true);
             }
+        }
+    }
+
+    /** Walls that reach to the land's edge, and rivers across the first and last pieces of their lines. */
+    private static void riversAtTheEdge() {
+        CHECK.says("no piece of its line (a side of a CELL) has RIVERS on both sides");
+        String[] rivers = {"0 5 1 7", "19 5 20 7", "0 12 1 14", "19 12 20 14"};
+        for (String area : rivers) {
+            RoundAnothers it = Check.object(HOUSE + ";river " + area, "far 1");
+            can(it, 0, 6, 20, 13, false);
+            can(it, 1, 6, 19, 13, true);
+        }
+        rivers = new String[] {"5 0 7 1", "5 19 7 20", "12 0 14 1", "12 19 14 20"};
+        for (String area : rivers) {
+            RoundAnothers it = Check.object(HOUSE + ";river " + area, "far 1");
+            can(it, 6, 0, 13, 20, false);
+            can(it, 6, 1, 13, 19, true);
         }
     }
 
@@ -298,6 +337,34 @@ public final class WallEdgesTest {
         CHECK.due("one less", it.wish(0, 11, 10, 15, 29, 34, 28, -1), 8);
         it.build(0, 11, 10, 15, 29, 34, 28, -1);
         CHECK.due("one more", it.wish(0, 11, 9, 14, 30, 35, 29, -1), 9);
+    }
+
+    private static void wordsOfTwo() {
+        CHECK.says("two (1 if it is ROUND two, else 0)");
+        RoundAnothers it = Check.object("house 5 5 7 7;house 12 5 14 7;worth 9 5 5 6 6;worth 8 12 5 13 6;worth 50 3 3 4 4;well 5 5;"
+                + "well 12 5;well 3 3;river 6 6 7 7;river 13 6 14 7;river 15 8 16 9", "join 1");
+        Check.wish(it, "want two");
+        Check.wish(it, "want worth");
+        Check.wish(it, "want wells");
+        Check.wish(it, "want river");
+        Check.wish(it, "want ground");
+        Check.wish(it, "want deep");
+        long[] houses = {1, 78 - 8 + 49, 1, 1, 78 - 8, 0};
+        for (int wish = 0; wish < 6; wish++) {
+            CHECK.due("wish " + wish + " of two houses", it.wish(wish, 0, 3, 3, 16, 9, 0, 1), houses[wish]);
+            CHECK.due("wish " + wish + " of two houses", it.wish(wish, 0, 3, 3, 16, 9, 1, 0), houses[wish]);
+        }
+        CHECK.due("round one", it.wish(0, 0, 3, 3, 16, 9, 0, -1), 0);
+        CHECK.due("ground round one", it.wish(4, 0, 3, 3, 16, 9, 0, -1), 74);
+        it.build(0, 0, 4, 4, 8, 8, 0, -1);
+        it.build(0, 0, 11, 4, 15, 8, 1, -1);
+        long[] walls = {1, 78 - 32 + 49, 1, 1, 78 - 32, 2};
+        for (int wish = 0; wish < 6; wish++) {
+            CHECK.due("wish " + wish + " of two walls", it.wish(wish, 0, 3, 3, 16, 9, 6, 7), walls[wish]);
+        }
+        it.build(0, 0, 3, 3, 9, 9, 6, -1);
+        CHECK.due("deep of a wall with one in it and another", it.wish(5, 0, 2, 2, 17, 10, 8, 7), 3);
+        CHECK.due("the other way", it.wish(5, 0, 2, 2, 17, 10, 7, 8), 3);
     }
 
     private static void wish() {

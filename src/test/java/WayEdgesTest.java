@@ -345,7 +345,8 @@ public final class WayEdgesTest {
         int[] lengths = {5, 4, 5, 4};
         for (int side = 0; side < 4; side++) {
             for (int place = 0; place < lengths[side]; place++) {
-                RoundAnothers it = Check.object("wide 9 8;house 3 3 6 5", "far 1");
+                // Rivers leave one ring of cells about the wall.
+                RoundAnothers it = Check.object("wide 9 8;house 3 3 6 5;river 0 0 9 1;river 0 7 9 8;river 0 0 1 8;river 8 0 9 8", "far 1");
                 it.build(0, 4, 2, 2, 7, 6, 0, -1);
                 int x = side == 1 ? 6 : side == 3 ? 2 : 2 + place;
                 int y = side == 0 ? 2 : side == 2 ? 5 : 2 + place;
@@ -422,6 +423,17 @@ public final class WayEdgesTest {
         it.pull(7);
         it.build(0, 2, 2, 2, 8, 8, 6, -1);
         where("a wall in its place has none", it, 7, 1, 2);
+        // 1000 coins on the way already: nothing here makes it less.
+        it = Check.object("house 4 4 6 6;river 2 0 8 1", "far 1");
+        it.build(0, 1, 3, 3, 7, 7, 0, -1);
+        it.build(0, 2, 2, 2, 8, 8, 6, -1);
+        it.build(0, 3, 1, 1, 9, 9, 7, -1);
+        it.gate(6, 1, 1, 999);
+        it.gate(7, 1, 2, 1);
+        it.errand(0, 0, 15, 4, 4, 4);
+        where("1000 coins, so no way is cheaper", it, 8, 0, 1);
+        it.gate(7, 1, 2, 0);
+        where("999 coins and a way", it, 8, 1, 3);
     }
 
     private static void whereCoinsFirst() {

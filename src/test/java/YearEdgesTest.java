@@ -347,7 +347,8 @@ public final class YearEdgesTest {
             it.gate(29, 3, 18, 999);
             it.key(29, 0, true);
             it.key(6, 11, true);
-            it.errand(0, 1, 0, 0, 39, 39);
+            it.errand(0, 1, 9, 33, 10, 32);
+            it.errand(4, 0, 9, 33, 10, 31);
             it.errand(5, 1, 19, 24, 39, 39);
             it.years(0, 7);
             it.seed(MAX);
